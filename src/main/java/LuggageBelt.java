@@ -693,6 +693,7 @@ public final class LuggageBelt {
         int tick;
         int asleep;
         private int shift;
+        private int inCart;
         final int[] kinds = new int[MOST_TRAVELLERS];
         final int[] stands = new int[MOST_TRAVELLERS];
         final int[] saw = new int[MOST_TRAVELLERS];
@@ -707,6 +708,7 @@ public final class LuggageBelt {
             tick = 0;
             asleep = 0;
             shift = 0;
+            inCart = 0;
             Arrays.fill(slats, NONE);
         }
 
@@ -718,6 +720,7 @@ public final class LuggageBelt {
                 took[travellers] = NONE;
                 paints[travellers] = paintOfOne;
                 spots[travellers] = IN_CART;
+                inCart++;
                 travellers++;
             }
         }
@@ -728,6 +731,7 @@ public final class LuggageBelt {
             tick = other.tick;
             asleep = other.asleep;
             shift = other.shift;
+            inCart = other.inCart;
             System.arraycopy(other.kinds, 0, kinds, 0, MOST_TRAVELLERS);
             System.arraycopy(other.stands, 0, stands, 0, MOST_TRAVELLERS);
             System.arraycopy(other.saw, 0, saw, 0, MOST_TRAVELLERS);
@@ -737,7 +741,7 @@ public final class LuggageBelt {
             System.arraycopy(other.slats, 0, slats, 0, MOST_PLACES);
         }
 
-        /** Nobody is asleep in a hall that is kept, and the slats follow from the spots: both stay out. */
+        /** Nobody is asleep in a hall that is kept, and what lies on slats or in the cart follows from the spots. */
         void saveTo(int[] store, int at) {
             if (at < 0 || at > store.length - CELLS) {
                 return;
@@ -770,14 +774,17 @@ public final class LuggageBelt {
             System.arraycopy(store, from + 3 * MOST_TRAVELLERS, took, 0, MOST_TRAVELLERS);
             System.arraycopy(store, from + 4 * MOST_TRAVELLERS, paints, 0, MOST_TRAVELLERS);
             System.arraycopy(store, from + 5 * MOST_TRAVELLERS, spots, 0, MOST_TRAVELLERS);
-            layOnSlats();
+            followSpots();
         }
 
-        private void layOnSlats() {
+        private void followSpots() {
+            inCart = 0;
             Arrays.fill(slats, NONE);
             for (int bag = 0; bag < travellers; bag++) {
                 if (isOnBelt(bag)) {
                     slats[spots[bag]] = bag;
+                } else if (isInCart(bag)) {
+                    inCart++;
                 }
             }
         }
@@ -881,7 +888,7 @@ public final class LuggageBelt {
 
         void tickOnce() {
             turnBy(1);
-            if (chuteIsFree()) {
+            if (isFallDue()) {
                 dropFirst();
             }
             letTake();
@@ -893,8 +900,8 @@ public final class LuggageBelt {
             }
         }
 
-        boolean chuteIsFree() {
-            return bagAt(0) == NONE;
+        boolean isFallDue() {
+            return inCart > 0 && bagAt(0) == NONE;
         }
 
         private void dropFirst() {
@@ -911,23 +918,27 @@ public final class LuggageBelt {
             if (slat >= 0 && slat < MOST_PLACES) {
                 spots[bag] = slat;
                 slats[slat] = bag;
+                inCart--;
             }
         }
 
         /** The last part of a tick, with which it ends. */
         void letTake() {
             for (int one = 0; one < travellers; one++) {
-                int bag = waits(one) && (asleep >> one & 1) == 0 ? bagAt(stands[one]) : NONE;
-                if (bag != NONE) {
-                    if (bag == one && saw[one] < MOST_SEEN) {
-                        saw[one]++;
-                    }
-                    if (wants(one, bag)) {
-                        take(one, bag);
-                    }
+                if (took[one] == NONE && (asleep >> one & 1) == 0) {
+                    letLook(one, bagAt(stands[one]));
                 }
             }
             tick++;
+        }
+
+        private void letLook(int one, int bag) {
+            if (bag == one && saw[one] < MOST_SEEN) {
+                saw[one]++;
+            }
+            if (bag != NONE && wants(one, bag)) {
+                take(one, bag);
+            }
         }
 
         private boolean wants(int one, int bag) {
@@ -943,8 +954,8 @@ public final class LuggageBelt {
 
         private boolean isAlone(int one) {
             for (int other = 0; other < travellers; other++) {
-                int apart = Math.abs(stands[other] - stands[one]);
-                if (other != one && waits(other) && (apart <= 1 || apart == places - 1)) {
+                int apart = stands[other] > stands[one] ? stands[other] - stands[one] : stands[one] - stands[other];
+                if (other != one && took[other] == NONE && (apart <= 1 || apart == places - 1)) {
                     return false;
                 }
             }
@@ -963,6 +974,7 @@ public final class LuggageBelt {
             int bag = took[one];
             if (has(bag)) {
                 spots[bag] = IN_CART;
+                inCart++;
                 took[one] = NONE;
                 saw[one] = 0;
             }
@@ -1255,6 +1267,8 @@ public final class LuggageBelt {
     private static final class OrderSearch {
         private final Hall trial;
         private final int[] levels = new int[MOST_TRAVELLERS * Hall.CELLS];
+        private final int[] hallNow = new int[Hall.CELLS];
+        private final int[] hallSearched = new int[Hall.CELLS];
         private final int[] falls = new int[MOST_TRAVELLERS];
         private final int[] bestFalls = new int[MOST_TRAVELLERS];
         private int bestFallCount;
@@ -1270,17 +1284,32 @@ public final class LuggageBelt {
             return most;
         }
 
+        /** The bags of one order are asked for one by one, so what was found for the same hall is kept. */
         void search(Hall now, int n) {
+            now.saveTo(hallNow, 0);
+            if (n == ticksInAll && isSearched()) {
+                return;
+            }
+            System.arraycopy(hallNow, 0, hallSearched, 0, Hall.CELLS);
             ticksInAll = n;
             most = -1;
             trial.become(now);
             tryFrom(0, 0);
         }
 
+        private boolean isSearched() {
+            for (int i = 0; i < Hall.CELLS; i++) {
+                if (hallNow[i] != hallSearched[i]) {
+                    return false;
+                }
+            }
+            return true;
+        }
+
         private void tryFrom(int done, int depth) {
             for (int i = done; i < ticksInAll; i++) {
                 trial.turnBy(1);
-                if (trial.chuteIsFree() && trial.setOf(Hall.BAGS_IN_CART) != 0) {
+                if (trial.isFallDue()) {
                     tryEachFall(i, depth);
                     return;
                 }

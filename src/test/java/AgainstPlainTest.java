@@ -19,9 +19,12 @@ public final class AgainstPlainTest {
         draw = new Random(seed);
     }
 
+    /** With two numbers: the first seed, and how many runs. */
     public static void main(String[] args) throws Exception {
+        int first = args.length == 2 ? Integer.parseInt(args[0]) : 0;
+        int last = first + (args.length == 2 ? Integer.parseInt(args[1]) : RUNS);
         int bad = 0;
-        for (int seed = 0; seed < RUNS && bad < 5; seed++) {
+        for (int seed = first; seed < last && bad < 5; seed++) {
             AgainstPlainTest run = new AgainstPlainTest(seed);
             while (run.calls.size() < CALLS && !run.differs) {
                 run.next();

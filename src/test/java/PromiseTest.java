@@ -239,6 +239,19 @@ public final class PromiseTest {
         due("7 in the cart", x.stand(1), 1);
         due("7 saw", x.count(5), 0);
         due("7 nothing to undo", x.undo(), STATE);
+        LuggageBelt y = Due.belt("b7;d0,0;d1,1;");
+        y.all(60, 0);
+        y.sleep(0, 60, 10, 0);
+        due("7 what was foretold leaves nothing", Due.tell(y, "b7;c1,0;c6,1;"), 2);
+        due("7 tick", y.count(3), 0);
+        due("7 saw", y.count(5), 0);
+        due("7 the belt begins anew", y.ticks(2), 1);
+        due("7 bag 1 falls", y.place(0), 1);
+        due("7 bag 0 is taken", y.place(1), NONE);
+        y.all(60, 0);
+        due("7 what was foretold leaves nothing", Due.tell(y, "b7;l1,0;"), 1);
+        due("7 saw", y.count(5), 0);
+        due("7 the first time", y.ticks(2), 0);
     }
 
     private static void undos() {
@@ -268,7 +281,21 @@ public final class PromiseTest {
         due("9 tick", x.count(3), 1);
         due("9 tick undone", x.undo(), 0);
         due("9 cart", x.stand(1), 3);
+        due("9 the belt is empty", x.place(0), NONE);
         due("9 none", x.undo(), STATE);
+        x.ticks(1);
+        x.turn();
+        x.paint(0, 1);
+        x.undo();
+        due("9 turned yet", x.place(1), 0);
+        due("9 falls at the chute", x.all(1, 0), 0);
+        x.ticks(1);
+        due("9 bag 1 there", x.place(0), 1);
+        due("9 bag 0 one on", x.place(2), 0);
+        x.undo();
+        x.undo();
+        x.undo();
+        due("9 at the beginning", x.count(3), 0);
 
         x.ticks(24);
         due("9 24 kept", x.count(6), 24);
@@ -544,6 +571,8 @@ public final class PromiseTest {
         due("19 bag", x.ahead(2, 0), BAD);
         due("19 nothing changes", x.count(3), 0);
 
+        due("20 now", x.with(1, 0, 0), NONE);
+        due("20 now", x.with(1, 0, 1), 0);
         due("20 waits", x.with(1, 10, 0), NONE);
         due("20 gone", x.with(1, 11, 0), 1);
         due("20 saw", x.with(1, 10, 1), 2);
@@ -601,6 +630,13 @@ public final class PromiseTest {
         due("24 traveller", x.best(3, 1, 0), BAD);
         due("24 nothing changes", x.traveller(0, 0), 4);
         x.ticks(2);
+        LuggageBelt late = Due.belt("b6;d0,0;");
+        late.ticks(5);
+        late.undo();
+        late.turn();
+        due("24 at 4 now", late.bag(0, 1), 4);
+        due("24 dozy, saw it once", late.best(0, 60, 1), 7);
+        due("24 soonest at the next place", late.best(0, 60, 0), 5);
         due("24 it passed 0", x.best(0, 60, 0), 2);
         due("24 the next place", x.best(0, 60, 1), 1);
         x.move(0, 2);
@@ -640,7 +676,20 @@ public final class PromiseTest {
         orderIs("one tick", x, 1, 1, 2, 0, 1);
         // In 5 ticks: bag 0 must fall in tick 1; bag 2 is taken at once; bag 1 must fall in tick 2 at the latest.
         orderIs("five ticks", x, 5, 3, 0, 1, 2);
+        orderIs("one tick again", x, 1, 1, 2, 0, 1);
+        orderIs("40 ticks", x, 40, 3, 0, 1, 2);
         due("25 nothing changes", x.stand(1), 7);
+        // What was found does not outlast the hall for which it was.
+        LuggageBelt y = Due.belt("b6;c3,1;h1,1;");
+        orderIs("one colour", y, 9, 2, 1, 0);
+        y.paint(0, 2);
+        orderIs("painted", y, 9, 2, 0, 1);
+        y.undo();
+        orderIs("undone", y, 9, 2, 1, 0);
+        y.move(1, 3);
+        orderIs("elsewhere, behind the calm one", y, 9, 2, 0, 1);
+        due("7 another hall", Due.tell(y, "b6;c3,1;h1,1;c0,0;"), 3);
+        orderIs("another hall", y, 9, 3, 1, 0, 2);
         // Traveller 1 takes what is of its colour, so its own must come first.
         orderIs("hasty", Due.belt("b6;c3,1;h1,1;"), 9, 2, 1, 0);
         // Both orders let both go within 20 ticks; seen together is the same; so the first by numbers.
@@ -754,6 +803,7 @@ public final class PromiseTest {
         y.ticks(3);
         due("28 gone", y.stand(4), 1);
         due("28 saw none", y.share(0, 5), 0);
+        due("28 all to the only one that saw any", with("b4;c2,0;c0,0;", 2).share(1, 7), 7);
         due("28 over", y.share(1, 5), 3);
         due("28 cut", y.share(2, 5), 2);
     }
@@ -765,6 +815,7 @@ public final class PromiseTest {
         due("29 n", x.byTurns(5, 1), BAD);
         due("29 m", x.byTurns(0, 0), BAD);
         due("29 m", x.byTurns(0, 21), BAD);
+        due("29 m", x.byTurns(4, 1), 0);
         due("29 nothing on it", x.byTurns(4, 3), 1);
         // Behind one tick bag 0 is at 0: traveller 0 has it at 4 behind 4 more, or behind 3 if it is turned once.
         x.ticks(1);
@@ -776,6 +827,18 @@ public final class PromiseTest {
         due("29 and back", x.byTurns(4, 3), 1);
         due("29 two would want two more", x.byTurns(3, 2), 1);
         due("29 nothing changes", x.bag(0, 1), 0);
+        // Bag 0 is at 2, one ahead of its traveller: a turn of the one takes it past, one of the other leaves it short.
+        LuggageBelt y = with("b12;c5,0;", 3);
+        due("29 as it is", y.byTurns(0, 3), 1);
+        due("29 the other one only", y.byTurns(2, 2), 0);
+        due("29 what the one does the other undoes", y.byTurns(2, 3), 1);
+        due("29 the one is last", y.byTurns(3, 2), 1);
+        due("29 the other one is last", y.byTurns(4, 2), 0);
+        // At 4 now: a turn takes it to 5 unseen, and then a round is too long. So the one lets it be, the other one turns.
+        LuggageBelt z = with("b12;c5,0;", 5);
+        due("29 let it be", z.byTurns(1, 1), 1);
+        due("29 turned the other way", z.byTurns(2, 1), 0);
+        due("29 the one may mend it", z.byTurns(3, 1), 1);
         due("29 those that are gone now, too", with("b4;c0,0;", 1).byTurns(4, 20), 1);
     }
 
@@ -885,6 +948,10 @@ public final class PromiseTest {
         sleepIs("who is gone falls not asleep", x, 1, 9, 3, 1, 1);
         sleepIs("many", Due.belt("b12;c1,0;h2,0;h3,0;h4,0;h5,0;h6,0;"), 0, 60, 1, 1, 1000000);
         due("32 nothing changes", x.stand(4), 1);
+        LuggageBelt y = Due.belt("b6;c3,1;");
+        sleepIs("asleep", y, 0, 9, 10, 1, 1);
+        due("32 nobody is asleep then", y.all(4, 0), 1);
+        due("32 nor in ticks", y.ticks(4), 1);
     }
 
     private static void drawn() {
@@ -907,6 +974,13 @@ public final class PromiseTest {
         due("33 and elsewhere again", x.drawn(2, 3, 0), 0);
         // From 1: 16807 by 2 leaves 1 and by 3 leaves 1, 282475249 too: nobody moves in 2 days, and 1 takes bag 0.
         due("33 wrong", Due.belt(ROBBERY).drawn(2, 1, 1), 1);
+        // Reckoned apart by another program.
+        LuggageBelt y = Due.belt("b7;c3,0;h1,0;s5,1;h2,1;l0,2;");
+        int[][] due = {{60, 999999, 25, 9}, {60, 1, 23, 11}, {37, 4711, 20, 5}, {1, 999999, 0, 0}, {20, 77, 9, 3}};
+        for (int[] one : due) {
+            due("33 drawn", y.drawn(one[0], one[1], 0), one[2]);
+            due("33 drawn wrong", y.drawn(one[0], one[1], 1), one[3]);
+        }
         due("33 nothing changes", x.count(3), 0);
     }
 
@@ -946,6 +1020,7 @@ public final class PromiseTest {
         due("35 the one before", x.restore(0), 1);
         due("35 places", x.count(2), 6);
         due("35 travellers", x.count(1), 2);
+        due("35 kind", x.kind(0), 1);
         due("35 kind", x.kind(1), 3);
         due("35 tick", x.count(3), 7);
         due("35 waits", x.stand(4), 3);
