@@ -690,6 +690,11 @@ public final class PromiseTest {
         orderIs("elsewhere, behind the calm one", y, 9, 2, 0, 1);
         due("7 another hall", Due.tell(y, "b6;c3,1;h1,1;c0,0;"), 3);
         orderIs("another hall", y, 9, 3, 1, 0, 2);
+        // Of 4 places 3 is beside 0, of 5 it is not.
+        LuggageBelt z = Due.belt("b4;s0,0;d3,1;");
+        orderIs("shy, one beside", z, 1, 0, 1, 0);
+        due("7 one place more", Due.tell(z, "b5;s0,0;d3,1;"), 2);
+        orderIs("shy, nobody beside", z, 1, 1, 0, 1);
         // Traveller 1 takes what is of its colour, so its own must come first.
         orderIs("hasty", Due.belt("b6;c3,1;h1,1;"), 9, 2, 1, 0);
         // Both orders let both go within 20 ticks; seen together is the same; so the first by numbers.
