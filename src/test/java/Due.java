@@ -2,15 +2,25 @@
 final class Due {
     private static int asked = 0;
     private static int wrong = 0;
+    private static String test = "";
 
     private Due() {
+    }
+
+    /** From now on what is not as due is told of this test. */
+    static void begin(String name) {
+        test = name;
+    }
+
+    static int asked() {
+        return asked;
     }
 
     static void due(String call, long got, long want) {
         asked++;
         if (got != want) {
             wrong++;
-            System.out.println(call + " answered " + got + ", due is " + want);
+            System.out.println((test.isEmpty() ? "" : test + ": ") + call + " answered " + got + ", due is " + want);
         }
     }
 
@@ -40,5 +50,18 @@ final class Due {
             holds("the text of a test is read: " + text, false);
         }
         return x;
+    }
+
+    /** A belt some ticks later, 24 at a time. */
+    static LuggageBelt belt(String text, int ticks) {
+        LuggageBelt x = belt(text);
+        go(x, ticks);
+        return x;
+    }
+
+    static void go(LuggageBelt x, int ticks) {
+        for (int left = ticks; left > 0; left -= 24) {
+            x.ticks(Math.min(left, 24));
+        }
     }
 }
