@@ -10,6 +10,8 @@ import java.util.List;
  */
 public final class PlainBelt {
     static final int NONE = -1000000, BAD = -1000001, STATE = -1000002, FULL = -1000003;
+    /** Stands for a number among the tokens; no byte is that. */
+    private static final char NUMBER = 0x100;
 
     /** The asks, by the language's own rules for what is inherited. */
     interface Traveller {
@@ -413,7 +415,7 @@ public final class PlainBelt {
             while (figure && end < text.length() && in(text.charAt(end), '0', '9')) {
                 end++;
             }
-            int fault = step(read, state, figure ? '#' : c, figure ? text.substring(at, end) : "");
+            int fault = step(read, state, figure ? NUMBER : c, figure ? text.substring(at, end) : "");
             if (fault != 0) {
                 latestFault = fault;
                 return -1000100 - at;
@@ -431,7 +433,8 @@ public final class PlainBelt {
     }
 
     private static int step(World read, int state, char c, String figures) {
-        String[] may = {"b", "#", ";", "cshld", "#", ",", "#", ";"};
+        String number = String.valueOf(NUMBER);
+        String[] may = {"b", number, ";", "cshld", number, ",", number, ";"};
         if (may[state].indexOf(c) < 0 || figures.length() > 2) {
             return 1;
         }

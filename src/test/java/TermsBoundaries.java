@@ -403,6 +403,32 @@ final class TermsBoundaries implements Answers {
         faulty("b4;c0,0;\u00ff", 8, 1);
     }
 
+    @Sentence(at = "Terms 1", words = "SIGNS , and ; nothing else")
+    static void terms1_everyByteInEveryPlaceOfAText() {
+        String text = "b4;c0,0;";
+        // A figure in place of a sign makes one number with its neighbours: 40, 000 (a run of three), 00.
+        String[] may = {"b", "456789", ";", "cshld", "0123", ",", "0123", ";"};
+        for (int place = 0; place < text.length(); place++) {
+            for (int letter = 0; letter < 256; letter++) {
+                String told = text.substring(0, place) + (char) letter + text.substring(place + 1);
+                boolean isFigure = letter >= '0' && letter <= '9';
+                if (may[place].indexOf(letter) >= 0) {
+                    read(told, 1);
+                } else if (isFigure && (place == 1 || place == 4 || place == 6)) {
+                    faulty(told, place, 2);
+                } else if (isFigure && place == 2) {
+                    faulty(told, 1, 2);
+                } else if (isFigure && place == 5) {
+                    faulty(told, 4, 1);
+                } else if (isFigure && place == 7) {
+                    faulty(told, letter <= '3' ? 8 : 6, letter <= '3' ? 1 : 2);
+                } else {
+                    faulty(told, place, 1);
+                }
+            }
+        }
+    }
+
     @Sentence(at = "Terms 1", words = "hall: law traveller { traveller }.")
     static void terms1_aHallHasOneLawAndATravellerOrMore() {
         faulty("b4;", 3, 1);
@@ -524,6 +550,13 @@ final class TermsBoundaries implements Answers {
         due("nobody SAW any", x.count(5), 0);
         due("bag 1 falls and is taken, bag 0 is seen once", x.ticks(1), 2);
         due("once", x.traveller(0, 3), 1);
+        LuggageBelt y = Due.belt("b12;d11,0;d11,0;d11,0;d11,0;d11,0;d11,0;");
+        due("five are in the cart yet", y.ahead(5, 1), 20);
+        due("hall()", Due.tell(y, "b4;c1,0;"), 1);
+        due("in the cart there is one now", y.order(40, -1), 1);
+        due("which falls at 0", y.ahead(0, 1), 0);
+        due("ticks(1)", y.ticks(1), 0);
+        due("in the cart there is none now", y.order(40, -1), 1);
     }
 
     @Sentence(at = "Terms 1", words = "no ACT can be undone.")
