@@ -320,10 +320,10 @@ public final class LuggageBelt {
         if (noHall()) {
             return STATE;
         }
-        if (n < 0 || n > 4 || m < 1 || m > 20) {
+        if (n < 0 || n > Foresight.MOST_TURNS || m < 1 || m > 20) {
             return BAD;
         }
-        return foresight.outcomeOfTurns(n, m, 0, 0);
+        return foresight.outcomeOfTurns(n, m);
     }
 
     public int who(int traveller, int which, int bag, int row, int i, int n) {
@@ -1016,11 +1016,13 @@ public final class LuggageBelt {
 
     /** What is foretold, tried out in a hall of its own: the one that is now stays. */
     private static final class Foresight {
+        static final int MOST_TURNS = 4;
         private static final int FIRST_MARK = 10;
         private static final long DRAW_FACTOR = 16807, DRAW_DIVISOR = 2147483647;
 
         private final Hall now;
         private final Hall trial;
+        private final int[] outcomes = new int[MOST_TURNS + 1];
 
         Foresight(Hall now, Hall trial) {
             this.now = now;
@@ -1136,17 +1138,28 @@ public final class LuggageBelt {
             return seen;
         }
 
-        /** Only how far the belt is turned in the end counts, so no turn needs a hall of its own. */
-        int outcomeOfTurns(int n, int m, int done, int turned) {
-            if (done >= n) {
-                trial.become(now);
-                trial.turnBy(turned);
-                return Integer.bitCount(goOn(m).setOf(Hall.GONE));
+        /**
+         * Only how far the belt is turned in the end counts: n choices leave n + 1 ways to be turned. From what
+         * comes of each it goes back, choice by choice: of two ways side by side the one who chooses takes one.
+         */
+        int outcomeOfTurns(int n, int m) {
+            if (n < 0 || n > MOST_TURNS) {
+                return NONE;
             }
-            boolean isTheOne = (done & 1) == 0;
-            int still = outcomeOfTurns(n, m, done + 1, turned);
-            int moved = outcomeOfTurns(n, m, done + 1, isTheOne ? turned + 1 : turned - 1);
-            return isTheOne ? Math.max(still, moved) : Math.min(still, moved);
+            for (int i = 0; i <= n; i++) {
+                trial.become(now);
+                trial.turnBy(i - n / 2);
+                outcomes[i] = Integer.bitCount(goOn(m).setOf(Hall.GONE));
+            }
+            for (int choice = n - 1; choice >= 0; choice--) {
+                boolean isTheOne = (choice & 1) == 0;
+                for (int i = 0; i <= choice; i++) {
+                    int great = Math.max(outcomes[i], outcomes[i + 1]);
+                    int little = Math.min(outcomes[i], outcomes[i + 1]);
+                    outcomes[i] = isTheOne ? great : little;
+                }
+            }
+            return outcomes[0];
         }
 
         int kindsThatFit(int one, int bag, int[] told, int i, int n) {

@@ -165,7 +165,7 @@ final class ForetoldTermsBoundaries implements Answers {
 
     @Sentence(at = "Terms 3", words = "n at most, of several the least: which; behind how many TICKS; NONE.")
     static void terms3_bestIsWhereItIsSoonestOrNowhere() {
-        // Of two places one is always sooner: its bag is at one of them in a tick. At 0 and 1 the dozy one is beside.
+        // At 0 and 1 the dozy one is beside.
         LuggageBelt x = Due.belt("b8;s4,0;d0,1;");
         due("which", x.best(0, 60, 0), 2);
         due("behind", x.best(0, 60, 1), 3);
@@ -185,6 +185,25 @@ final class ForetoldTermsBoundaries implements Answers {
         LuggageBelt hasty = Due.belt("b4;l3,0;h2,0;");
         due("not with its own", hasty.best(1, 60, 0), NONE);
         due("not with its own", hasty.best(1, 60, 1), NONE);
+    }
+
+    @Sentence(at = "Terms 3", words = "by which it is GONE with its own soonest, n at most, of several the least")
+    static void terms3_bestOfSeveralIsTheLeast() {
+        // Where 4 stands, tells whether the shy 0 at 3 is alone, and so when bag 4 falls. At 0 it is not: bag 0 comes to
+        // place 0 in tick 5, bag 4 falls in tick 6. At 1 it is: bag 0 is gone in tick 4, bag 4 falls in 5, is at 1 in 6.
+        LuggageBelt x = Due.belt("b4;s3,0;h0,2;s1,3;s1,1;c3,1;");
+        x.move(4, 0);
+        due("at 0 behind", x.when(4), 6);
+        x.move(4, 1);
+        due("at 1 behind", x.when(4), 6);
+        due("at 0 and at 1 alike: which", x.best(4, 60, 0), 0);
+        due("at 0 and at 1 alike: behind", x.best(4, 60, 1), 6);
+        due("n is enough for both", x.best(4, 6, 0), 0);
+        due("n is enough for none", x.best(4, 5, 0), NONE);
+        LuggageBelt y = Due.belt("b4;s0,3;s2,3;l2,1;h2,1;d2,2;");
+        due("at 2 behind", y.when(4), 15);
+        due("at 0 and at 2 alike: which", y.best(4, 60, 0), 0);
+        due("at 0 and at 2 alike: behind", y.best(4, 60, 1), 15);
     }
 
     @Sentence(at = "Terms 3", words = "ORDER for n TICKS (1 to 40)")

@@ -21,7 +21,7 @@ public final class LanguageTest {
     private static final Set<String> STATIC_TYPES = Set.of("int", "long", "boolean", "char", "String", "int[]", "long[]",
         "char[]", "byte[]");
 
-    public static void main(String[] args) throws IOException {
+    public static void main(String[] args) throws Exception {
         face();
         Class<?>[] inside = LuggageBelt.class.getDeclaredClasses();
         Due.holds("at most twelve classes", inside.length + 1 <= 12);
@@ -34,6 +34,7 @@ public final class LanguageTest {
         }
         words();
         lengths();
+        chainsOfCalls();
         Due.end();
     }
 
@@ -134,5 +135,20 @@ public final class LanguageTest {
             }
         }
         Due.holds("methods were found", methods > 80);
+    }
+
+    /** Rules 8 and 11: what calls itself is private, and calls go at most eight deep. */
+    private static void chainsOfCalls() throws Exception {
+        CallGraph graph = CallGraph.of(LuggageBelt.class);
+        Due.holds("the methods are found: " + graph.size(), graph.size() > 100);
+        Set<String> recursive = graph.recursive();
+        for (String method : recursive) {
+            Due.holds(method + " calls itself and is private", graph.isPrivate(method));
+        }
+        Due.holds("the ask and the search of orders alone go deeper by themselves: " + recursive, recursive.equals(Set.of(
+            "LuggageBelt$Asks.asked", "LuggageBelt$Asks.given", "LuggageBelt$OrderSearch.tryFrom",
+            "LuggageBelt$OrderSearch.tryEachFall")));
+        List<String> longest = graph.longestChain(graph.methods());
+        Due.holds("at most eight deep: " + longest, longest.size() <= 8 && longest.size() > 5);
     }
 }

@@ -699,6 +699,9 @@ public final class PromiseTest {
         orderIs("hasty", Due.belt("b6;c3,1;h1,1;"), 9, 2, 1, 0);
         // Both orders let both go within 20 ticks; seen together is the same; so the first by numbers.
         orderIs("first", Due.belt("b6;c3,1;c1,1;"), 20, 2, 0, 1);
+        // In two ticks two of five fall; the others come behind them, by numbers.
+        orderIs("one falls, between the others by its number", Due.belt("b6;c3,0;c0,1;c4,2;"), 1, 1, 1, 0, 2);
+        orderIs("two fall", Due.belt("b6;c5,0;c1,1;c5,2;c0,3;c5,0;"), 2, 2, 1, 3, 0, 2, 4);
         leastSeen();
         bagsNotInTheCart();
     }
@@ -811,6 +814,12 @@ public final class PromiseTest {
         due("28 all to the only one that saw any", with("b4;c2,0;c0,0;", 2).share(1, 7), 7);
         due("28 over", y.share(1, 5), 3);
         due("28 cut", y.share(2, 5), 2);
+        // Six who saw their own once each: 3 each, 2 over.
+        LuggageBelt z = with("b6;c0,0;c0,0;c0,0;c0,0;c0,0;c0,0;", 6);
+        int[] of20 = {4, 4, 3, 3, 3, 3};
+        for (int one = 0; one < 6; one++) {
+            due("28 of 20 among six: " + one, z.share(one, 20), of20[one]);
+        }
     }
 
     private static void byTurns() {
@@ -1082,6 +1091,13 @@ public final class PromiseTest {
         askIs(x, 3, 1, 3 - (10 - 100), 23, 20, 13, 10);
         askIs(x, 4, 0, 2 * (0 - 100), 14, 13, 10);
         askIs(x, 4, 1, 4 + 200, 23, 20, 14, 13, 10);
+        LuggageBelt shy = Due.belt("b12;c2,0;c3,1;c4,2;s8,3;");
+        askIs(shy, 3, 1, 2 * (3 + 0), 24, 21, 20);
+        askIs(shy, 3, 0, -(8 + 2 * 3), 12, 11, 10, 24, 21, 20);
+        shy.ticks(12);
+        due("38 the shy one saw its own", shy.traveller(3, 3), 1);
+        askIs(shy, 3, 1, 2 * (3 + 1), 24, 21, 20);
+        askIs(shy, 3, 0, -(8 + 2 * (3 + 1)), 12, 11, 10, 24, 21, 20);
         due("38 bad", x.ask(5, 0), BAD);
         due("38 bad", x.ask(-1, 0), BAD);
         due("38 bad", x.ask(0, 2), BAD);
