@@ -1,5 +1,11 @@
-import java.io.PrintWriter;
-import java.io.StringWriter;
+import com.sun.source.tree.CompilationUnitTree;
+import com.sun.source.tree.MethodInvocationTree;
+import com.sun.source.tree.MethodTree;
+import com.sun.source.util.JavacTask;
+import com.sun.source.util.TreePathScanner;
+import com.sun.source.util.Trees;
+import java.io.IOException;
+import java.nio.file.Path;
 import java.util.ArrayList;
 import java.util.HashSet;
 import java.util.List;
@@ -7,24 +13,26 @@ import java.util.Map;
 import java.util.Set;
 import java.util.TreeMap;
 import java.util.TreeSet;
-import java.util.regex.Matcher;
-import java.util.regex.Pattern;
-import java.util.spi.ToolProvider;
+import javax.lang.model.element.Element;
+import javax.lang.model.element.Modifier;
+import javax.tools.JavaCompiler;
+import javax.tools.StandardJavaFileManager;
+import javax.tools.ToolProvider;
 
-/** Which method of a class and of the classes inside it calls which, by what javap tells of the compiled classes. */
+/** Which method of a source file calls which of the same file, as javac itself understands it. */
 final class CallGraph {
-    private static final Pattern HEAD = Pattern.compile("^  (\\w.*?)?([\\w$]+)\\(.*\\);$");
-    private static final Pattern CALL = Pattern.compile("// (?:Interface)?Method (?:([\\w$/]+)\\.)?\"?([\\w$<>]+)\"?:");
-
     private final Map<String, Set<String>> calls = new TreeMap<>();
     private final Set<String> privates = new HashSet<>();
 
-    static CallGraph of(Class<?> outer) throws Exception {
+    static CallGraph of(Path source) throws IOException {
         CallGraph graph = new CallGraph();
-        String path = outer.getProtectionDomain().getCodeSource().getLocation().toURI().getPath();
-        graph.read(path, outer);
-        for (Class<?> inside : outer.getDeclaredClasses()) {
-            graph.read(path, inside);
+        JavaCompiler javac = ToolProvider.getSystemJavaCompiler();
+        try (StandardJavaFileManager files = javac.getStandardFileManager(null, null, null)) {
+            JavacTask task = (JavacTask) javac.getTask(null, files, null, List.of("-proc:none"), null,
+                files.getJavaFileObjects(source));
+            Iterable<? extends CompilationUnitTree> units = task.parse();
+            task.analyze();
+            graph.new Reader(Trees.instance(task)).scan(units, null);
         }
         for (Set<String> called : graph.calls.values()) {
             called.retainAll(graph.calls.keySet());
@@ -32,24 +40,32 @@ final class CallGraph {
         return graph;
     }
 
-    private void read(String path, Class<?> one) {
-        StringWriter told = new StringWriter();
-        ToolProvider javap = ToolProvider.findFirst("javap").orElseThrow();
-        javap.run(new PrintWriter(told), new PrintWriter(told), "-c", "-p", "-cp", path, one.getName());
-        Set<String> called = new TreeSet<>();
-        for (String line : told.toString().split("\n")) {
-            Matcher head = HEAD.matcher(line);
-            Matcher call = CALL.matcher(line);
-            if (head.matches()) {
-                String name = one.getName() + "." + head.group(2);
-                called = calls.computeIfAbsent(name, k -> new TreeSet<>());
-                if (line.contains("private ")) {
-                    privates.add(name);
-                }
-            } else if (call.find()) {
-                String of = call.group(1) == null ? one.getName() : call.group(1).replace('/', '.');
-                called.add(of + "." + call.group(2));
+    private final class Reader extends TreePathScanner<Void, Void> {
+        private final Trees trees;
+        private Set<String> called = new TreeSet<>();
+
+        Reader(Trees trees) {
+            this.trees = trees;
+        }
+
+        @Override
+        public Void visitMethod(MethodTree method, Void none) {
+            Element element = trees.getElement(getCurrentPath());
+            called = calls.computeIfAbsent(nameOf(element), k -> new TreeSet<>());
+            if (element.getModifiers().contains(Modifier.PRIVATE)) {
+                privates.add(nameOf(element));
             }
+            return super.visitMethod(method, none);
+        }
+
+        @Override
+        public Void visitMethodInvocation(MethodInvocationTree call, Void none) {
+            called.add(nameOf(trees.getElement(getCurrentPath())));
+            return super.visitMethodInvocation(call, none);
+        }
+
+        private String nameOf(Element method) {
+            return method.getEnclosingElement().getSimpleName() + "." + method.getSimpleName();
         }
     }
 

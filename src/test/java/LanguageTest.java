@@ -139,15 +139,14 @@ public final class LanguageTest {
 
     /** Rules 8 and 11: what calls itself is private, and calls go at most eight deep. */
     private static void chainsOfCalls() throws Exception {
-        CallGraph graph = CallGraph.of(LuggageBelt.class);
+        CallGraph graph = CallGraph.of(SOURCE);
         Due.holds("the methods are found: " + graph.size(), graph.size() > 100);
         Set<String> recursive = graph.recursive();
         for (String method : recursive) {
             Due.holds(method + " calls itself and is private", graph.isPrivate(method));
         }
         Due.holds("the ask and the search of orders alone go deeper by themselves: " + recursive, recursive.equals(Set.of(
-            "LuggageBelt$Asks.asked", "LuggageBelt$Asks.given", "LuggageBelt$OrderSearch.tryFrom",
-            "LuggageBelt$OrderSearch.tryEachFall")));
+            "Asks.asked", "Asks.given", "OrderSearch.tryFrom", "OrderSearch.tryEachFall")));
         List<String> longest = graph.longestChain(graph.methods());
         Due.holds("at most eight deep: " + longest, longest.size() <= 8 && longest.size() > 5);
     }
